@@ -75,7 +75,6 @@ public final class CricketHay {
     // The words that stand for themselves, eight signs each, in the order of their tokens.
     private static final String WORDS =
         "kind    dealer  of      song    age     gold    loads   needs   chirps  heat    snap    cart    draw    or      and     not     mates   hour    day     ";
-    private static final int WORD_COUNT = 19;
     private static final int WORD_SIGNS = 8;
     private static final int NUMBER_SIGNS = 4;
     private static final int FORMULA_UNITS = 30;
@@ -87,7 +86,6 @@ public final class CricketHay {
     private static final int BAD_NUMBER = 4;
     private static final int NO_KIND = 5;
 
-    private final Tape tape = new Tape();
     private final Reader reader = new Reader();
     private Market told = new Market();
     private Market draft = new Market();
@@ -109,28 +107,28 @@ public final class CricketHay {
     // ---- The text ----
 
     public int feed(int a, int b, int c, int d, int e) {
-        if (tape.length > TAPE_BYTES - FEED_BYTES) {
+        if (reader.length > TAPE_BYTES - FEED_BYTES) {
             return NONE;
         }
-        tape.put(a);
-        tape.put(b);
-        tape.put(c);
-        tape.put(d);
-        tape.put(e);
-        return tape.length;
+        reader.put(a);
+        reader.put(b);
+        reader.put(c);
+        reader.put(d);
+        reader.put(e);
+        return reader.length;
     }
 
     public int end(int n) {
-        if (n < 0 || n > tape.length) {
+        if (n < 0 || n > reader.length) {
             return NONE;
         }
-        tape.length = n;
+        reader.length = n;
         return n;
     }
 
     public int market() {
-        boolean good = reader.read(tape, draft);
-        tape.length = 0;
+        boolean good = reader.read(draft);
+        reader.length = 0;
         if (!good) {
             return NONE;
         }
@@ -537,7 +535,7 @@ public final class CricketHay {
             case 8: return acts.undone;
             case 9: return ears.count;
             case 10: return ears.time;
-            case 11: return tape.length;
+            case 11: return reader.length;
             case 12: return told.chirps.units + told.heat.units;
             case 13: return lie.count;
             default: return NONE;
@@ -697,21 +695,6 @@ public final class CricketHay {
         return a;
     }
 
-    /** The bytes that are fed. */
-    private static final class Tape {
-        final int[] bytes = new int[TAPE_BYTES];
-        int length = 0;
-
-        void put(int four) {
-            for (int shift = 24; shift >= 0; shift -= 8) {
-                if (length < bytes.length) {
-                    bytes[length] = four >>> shift & 255;
-                    length++;
-                }
-            }
-        }
-    }
-
     /** An expression, kept so that a unit lays a number down and a sign takes what lies there. */
     private static final class Formula {
         // A unit stands behind seven nots at most, and takes part in one sign of two sides.
@@ -744,7 +727,7 @@ public final class CricketHay {
                 int step = steps[i];
                 if (step == NOT) {
                     if (top >= 1) {
-                        stack[top - 1] = bit(stack[top - 1] == 0);
+                        stack[top - 1] = stack[top - 1] == 0 ? 1 : 0;
                     }
                 } else if (takesTwo(step)) {
                     if (top >= 2) {
@@ -778,16 +761,12 @@ public final class CricketHay {
                 case '*': return a * b;
                 case '/': return b == 0 ? 0 : a / b;
                 case '%': return b == 0 ? 0 : a % b;
-                case '<': return bit(a < b);
-                case '>': return bit(a > b);
-                case '=': return bit(a == b);
-                case AND: return bit(a != 0 && b != 0);
-                default: return bit(a != 0 || b != 0);
+                case '<': return a < b ? 1 : 0;
+                case '>': return a > b ? 1 : 0;
+                case '=': return a == b ? 1 : 0;
+                case AND: return a != 0 && b != 0 ? 1 : 0;
+                default: return a != 0 || b != 0 ? 1 : 0;
             }
-        }
-
-        private static int bit(boolean is) {
-            return is ? 1 : 0;
         }
     }
 
@@ -845,9 +824,9 @@ public final class CricketHay {
         }
     }
 
-    /** Reads a tape, token by token, into a market; the first fault stops it. */
+    /** The tape, read token by token into a market; the first fault stops it. */
     private static final class Reader {
-        private Tape tape;
+        private final int[] bytes = new int[TAPE_BYTES];
         private Market market;
         private Formula formula;
         private int at;
@@ -856,11 +835,20 @@ public final class CricketHay {
         private int number;
         private long name;
         private int seen;
+        int length = 0;
         int fault = 0;
         int faultPlace = NONE;
 
-        boolean read(Tape from, Market into) {
-            tape = from;
+        void put(int four) {
+            for (int shift = 24; shift >= 0; shift -= 8) {
+                if (length < bytes.length) {
+                    bytes[length] = four >>> shift & 255;
+                    length++;
+                }
+            }
+        }
+
+        boolean read(Market into) {
             market = into;
             market.reset();
             at = 0;
@@ -890,15 +878,15 @@ public final class CricketHay {
             if (fault != 0) {
                 return;
             }
-            while (at < tape.length && isBlank(tape.bytes[at])) {
+            while (at < length && isBlank(bytes[at])) {
                 at++;
             }
             place = at;
-            if (at >= tape.length) {
+            if (at >= length) {
                 token = END;
                 return;
             }
-            int first = tape.bytes[at];
+            int first = bytes[at];
             if (isLetter(first)) {
                 readWord();
             } else if (isDigit(first)) {
@@ -913,8 +901,8 @@ public final class CricketHay {
 
         private void readWord() {
             name = 0;
-            while (at < tape.length && isLetter(tape.bytes[at])) {
-                name = name << 5 | tape.bytes[at] - 'a' + 1;
+            while (at < length && isLetter(bytes[at])) {
+                name = name << 5 | bytes[at] - 'a' + 1;
                 at++;
             }
             if (at - place > WORD_SIGNS) {
@@ -922,30 +910,25 @@ public final class CricketHay {
                 return;
             }
             token = NAME;
-            for (int i = 0; i < WORD_COUNT; i++) {
-                if (isWord(i)) {
-                    token = KIND + i;
+            for (int i = 0; i < WORDS.length() && token == NAME; i += WORD_SIGNS) {
+                int same = 0;
+                while (same < WORD_SIGNS
+                    && WORDS.charAt(i + same) == (place + same < at ? bytes[place + same] : ' ')) {
+                    same++;
+                }
+                if (same == WORD_SIGNS) {
+                    token = KIND + i / WORD_SIGNS;
                 }
             }
-        }
-
-        private boolean isWord(int word) {
-            for (int i = 0; i < WORD_SIGNS; i++) {
-                int sign = place + i < at ? tape.bytes[place + i] : ' ';
-                if (sign != WORDS.charAt(word * WORD_SIGNS + i)) {
-                    return false;
-                }
-            }
-            return true;
         }
 
         private void readNumber() {
             number = 0;
-            while (at < tape.length && isDigit(tape.bytes[at])) {
-                number = number * 10 + tape.bytes[at] - '0';
+            while (at < length && isDigit(bytes[at])) {
+                number = number * 10 + bytes[at] - '0';
                 at++;
             }
-            if (at - place > NUMBER_SIGNS || at < tape.length && isLetter(tape.bytes[at])) {
+            if (at - place > NUMBER_SIGNS || at < length && isLetter(bytes[at])) {
                 fail(NO_TOKEN);
                 return;
             }
@@ -1030,13 +1013,16 @@ public final class CricketHay {
             switch (sort) {
                 case KIND: return market.kinds < KINDS;
                 case DEALER: return market.dealers < DEALERS;
-                case CHIRPS: case HEAT: case SNAP: case CART: case DRAW:
-                    int mark = 1 << sort - KIND;
-                    boolean first = (seen & mark) == 0;
-                    seen |= mark;
-                    return first;
+                case CHIRPS: case HEAT: case SNAP: case CART: case DRAW: return isFirst(sort);
                 default: return false;
             }
+        }
+
+        private boolean isFirst(int sort) {
+            int mark = 1 << sort - KIND;
+            boolean first = (seen & mark) == 0;
+            seen |= mark;
+            return first;
         }
 
         private void readKind() {
