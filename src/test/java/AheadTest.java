@@ -101,6 +101,9 @@ final class AheadTest {
         CHECK.due("plan(0, 1, 20, 12)", 4 * (2 + 2 + 3 + 4 + 4), x.plan(0, 1, 20, 12));
         // Prices at HOURS 0 to 11: 2 5 8 4 7 3 6 2 5 8 4 7.
         lies("twenty of twelve", x, 4, 0, 0, 4, 0, 4, 0, 4, 0, 0, 4, 0);
+        x.plan(0, 1, 1, 12);
+        CHECK.due("a cheaper hour beyond does not count", 4 * 2 + 4, x.plan(0, 1, 5, 5));
+        lies("five of five", x, 4, 0, 0, 1, 0);
         CHECK.due("plan(0, 1, 8, 2), all that the cart takes", 28, x.plan(0, 1, 8, 2));
         lies("eight of two", x, 4, 4);
     }

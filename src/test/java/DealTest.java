@@ -4,6 +4,7 @@ final class DealTest {
 
     public static void main(String[] args) {
         gain();
+        gainFromLast();
         gainOfLikeOnes();
         gainRefused();
         clear();
@@ -14,6 +15,7 @@ final class DealTest {
         odds();
         chanceRefused();
         rest();
+        restElsewhere();
         restRefused();
         law();
         liesStay();
@@ -51,6 +53,7 @@ final class DealTest {
         // Of c: a at 20 to b at 25.
         CHECK.due("gain(2)", 5, x.gain(2));
         lies("gain(2)", x, 0, 1);
+        CHECK.due("gain(2) by the first one, too", 25 - 20, x.gain(2));
         CHECK.due("gain(3), whose gold does not do", -1000, x.gain(3));
         lies("gain(3)", x);
         x = market(dealer("a", 10, 20, 0, 0), dealer("b", 30, 99, 1, 0),
@@ -61,6 +64,13 @@ final class DealTest {
             dealer("c", 10, 99, 0, 0));
         CHECK.due("gain(0) without the gold", -1000, x.gain(0));
         lies("without the gold", x);
+    }
+
+    private static void gainFromLast() {
+        CricketHay x = market(dealer("a", 60, 99, 0, 0), dealer("b", 20, 99, 0, 0),
+            dealer("c", 10, 99, 1, 0));
+        CHECK.due("gain(1), of the last to the first", 40 - 15, x.gain(1));
+        lies("of the last to the first", x, 2, 0);
     }
 
     private static void gainOfLikeOnes() {
@@ -110,6 +120,9 @@ final class DealTest {
         CHECK.due("with just the gold", 1, x.clear(0));
         x = market(dealer("a", 10, 99, 0, 1), dealer("b", 20, 99, 4, 4));
         CHECK.due("none over", 0, x.clear(0));
+        x = market(dealer("a", 20, 99, 9, 0), dealer("b", 10, 15, 0, 1));
+        CHECK.due("of the first one", 1, x.clear(0));
+        lies("of the first one", x, -1, 0);
         x = market(dealer("a", 10, 99, 4, 4), dealer("b", 20, 99, 9, 4));
         CHECK.due("none in need", 0, x.clear(0));
         lies("none in need", x, -1, -1);
@@ -231,7 +244,7 @@ final class DealTest {
     }
 
     private static void chanceRefused() {
-        CricketHay x = Texts.of(COLD);
+        CricketHay x = Texts.of(COLD + "chirps heat/10;");
         int[][] wrong = {{0, 1, 4, 0}, {0, 1, -1, 0}, {0, 1, 1, 2}, {0, 1, 1, -1}, {0, 0, 1, 0},
             {0, 2, 1, 0}, {2, 0, 1, 0}, {-1, 0, 1, 0}, {0, 1, Integer.MAX_VALUE, 0}};
         for (int[] w : wrong) {
@@ -267,6 +280,34 @@ final class DealTest {
             + "chirps (heat>20)*(1-song)*40+(heat>20)*song*40;");
         CHECK.due("rest where warmth sings", 1, x.rest(0, 1, 1));
         lies("rest where warmth sings", x, 0, 1);
+    }
+
+    private static void restElsewhere() {
+        // Who is colder sings more: the buyer goes up, the seller down.
+        CricketHay x = Texts.of("kind k;dealer a of k song 0;dealer b of k song 0;"
+            + "chirps 99-heat*2;");
+        CHECK.due("rest where cold sings", 1, x.rest(0, 1, 5));
+        lies("rest where cold sings", x, 2, -2);
+        CHECK.due("rest where cold sings, for three", 9, x.rest(0, 1, 3));
+        lies("rest where cold sings, for three", x, 0, -2);
+        // At 20 none sings, elsewhere both do, the more the farther.
+        x = Texts.of("kind k;dealer a of k song 0;dealer b of k song 0;"
+            + "chirps (20-heat)*(20-heat)*20;");
+        CHECK.due("two rests", 2, x.rest(0, 1, 1));
+        lies("two rests", x, 0, -2);
+        // Each sings at 18, 19 and 21 as he likes best: 18 the buyer, 19 the seller.
+        x = Texts.of("kind k;dealer a of k song 0;dealer b of k song 1;"
+            + "chirps (song=0)*(heat>18)*80+(song=1)*(heat=19)*80;");
+        CHECK.due("a rest of 18 and 19", 1, x.rest(0, 1, 1));
+        lies("a rest of 18 and 19", x, -2, -1);
+        // The HOUR is the one that is now, whatever was looked at ahead of it.
+        x = Texts.of("kind k;dealer a of k song 0;dealer b of k song 0;chirps heat*2*(hour=0);");
+        x.will(0, 1, 5);
+        CHECK.due("rest at HOUR 0", 1, x.rest(0, 1, 4));
+        lies("rest at HOUR 0", x, -2, 2);
+        x.hour();
+        CHECK.due("rest at HOUR 1", 1, x.rest(0, 1, 4));
+        lies("rest at HOUR 1", x, 0, 0);
     }
 
     private static void restRefused() {

@@ -32,6 +32,9 @@ final class ModelTest {
         while (calls < CALLS) {
             if (random.nextInt(120) == 0) {
                 market(random.nextInt(3) != 0);
+                if (model.about(0) < 2 && random.nextInt(4) != 0) {
+                    market(false);
+                }
             } else {
                 call(seed);
             }
@@ -85,7 +88,8 @@ final class ModelTest {
 
     private void call(long seed) {
         int a = one();
-        int b = one();
+        int b = random.nextInt(8) == 0 ? one() : a + 1 + random.nextInt(Math.max(1, model.about(0) - 1));
+        b = b >= model.about(0) && random.nextInt(8) != 0 ? b - model.about(0) : b;
         int n = some(0, 60);
         int few = some(0, 4);
         int part = some(0, 1);
@@ -203,8 +207,9 @@ final class ModelTest {
 
     private void heard() {
         int heat = some(0, 40);
-        int chirps = random.nextInt(6) == 0 ? some(0, 99) : some(10, 35);
-        boolean is = random.nextBoolean();
+        int chirps = some(0, 99);
+        // Mostly as if the stranger's cricket sang 30, so that some fit for long.
+        boolean is = random.nextInt(9) == 0 ? random.nextBoolean() : chirps <= 30;
         due("heard", model.heard(heat, chirps, is), hay.heard(heat, chirps, is));
     }
 

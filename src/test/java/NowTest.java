@@ -201,6 +201,8 @@ final class NowTest {
         for (int i = 0; i < due.length; i++) {
             CHECK.due("lasts(" + i + ")", due[i], x.lasts(i));
         }
+        CHECK.due("lasts of one a day", 3,
+            Texts.of("kind k;dealer a of k song 1 loads 3 needs 1;").lasts(0));
         CHECK.due("lasts(6)", -1, x.lasts(6));
         CHECK.due("lasts(-1)", -1, x.lasts(-1));
         for (int i = 0; i < 24; i++) {

@@ -5,6 +5,7 @@ final class StrangerTest {
     public static void main(String[] args) {
         heard();
         untell();
+        untellOfFormer();
         later();
         fits();
         fitsByHour();
@@ -50,8 +51,22 @@ final class StrangerTest {
         x.later(5);
         CHECK.due("untell(1) later again", false, x.untell(1));
         CHECK.due("untell(most)", false, x.untell(Integer.MAX_VALUE));
+        CHECK.due("untell(30)", false, x.untell(30));
         CHECK.due("fits(4)", 50, x.fits(4));
         CHECK.due("fits(5)", 100, x.fits(5));
+    }
+
+    private static void untellOfFormer() {
+        CricketHay x = new CricketHay();
+        for (int i = 0; i < 30; i++) {
+            x.heard(20, 25, true);
+        }
+        CHECK.due("untell(30) of thirty", false, x.untell(30));
+        x.market();
+        CHECK.due("untell(0) of a former MARKET", false, x.untell(0));
+        x.heard(20, 25, true);
+        CHECK.due("untell(1) of a former MARKET", false, x.untell(1));
+        CHECK.due("fits", 50, x.fits(0));
     }
 
     private static void later() {
@@ -120,6 +135,10 @@ final class StrangerTest {
             x.hour();
         }
         CHECK.due("on day 4", 70, x.fits(0));
+        x = Texts.of("chirps song*2;");
+        x.heard(7, 15, true);
+        CHECK.due("of a former MARKET", 20, x.fits(9));
+        CHECK.due("its songs", -2, x.sure(9));
         Texts.market(x, "chirps age*2;");
         CHECK.due("of a new MARKET", 100, x.fits(9));
         x.heard(7, 15, true);
@@ -181,6 +200,13 @@ final class StrangerTest {
         CHECK.due("ask(28, 0) of three", 19, x.ask(28, 0, 0));
         CHECK.due("ask(28, 1) of three", 20, x.ask(28, 1, 0));
         CHECK.due("ask(28, 0) ahead of it", 23, x.ask(28, 0, -1));
+        x = Texts.of("chirps (song=0 and age=0)*heat;");
+        CHECK.due("ask(5, 0) of one among a hundred", 5, x.ask(5, 0, 0));
+        CHECK.due("ask(5, 1) of one among a hundred", 99, x.ask(5, 1, 0));
+        CHECK.due("ask(1, 0) of one among a hundred", 1, x.ask(1, 0, 0));
+        x = Texts.of("chirps (song=9 and age=9)*heat;");
+        CHECK.due("ask(40, 0) of the last one", 40, x.ask(40, 0, 0));
+        CHECK.due("ask(40, 1) of the last one", 99, x.ask(40, 1, 0));
         x = Texts.of("chirps song+(heat=7 or heat=9)*age;");
         CHECK.due("ask(9, 0) of like ones the least", 7, x.ask(9, 0, 0));
         CHECK.due("ask(9, 1)", 55, x.ask(9, 1, 0));

@@ -9,6 +9,7 @@ final class TextTest {
         tapeEnds();
         marketTells();
         marketStartsAnew();
+        marketForgetsFormer();
         faultLeavesAll();
         faultAnswers();
         tokens();
@@ -121,7 +122,9 @@ final class TextTest {
         x.undo();
         x.heard(3, 4, true);
         x.later(7);
-        x.image(1);
+        for (int box = 0; box < 3; box++) {
+            x.image(box);
+        }
         x.plan(0, 1, 3, 2);
         return x;
     }
@@ -147,6 +150,36 @@ final class TextTest {
         }
         CHECK.due("anew: fits", 100, x.fits(1000));
         CHECK.due("anew: the TIME goes on", 8, x.later(1));
+    }
+
+    /** All that a richer MARKET told or left is gone with the next one. */
+    private static void marketForgetsFormer() {
+        CricketHay x = Texts.of("kind k;kind j;dealer a of j song 9 age 9 gold 9 loads 9 needs 9;"
+            + "dealer b of j song 8 age 8 needs 8;dealer c of j song 7;chirps 77+day;heat 33+hour;"
+            + "snap 100 of 20;cart 9;draw 999;");
+        for (int i = 0; i < 26; i++) {
+            x.hour();
+        }
+        x.breathe(0, 5);
+        x.breathe(1, -5);
+        x.free(0);
+        CHECK.due("HUNGER ahead", 8, x.dealer(1, 3));
+        CHECK.due("market", 2, Texts.market(x, "kind k;dealer a of k song 1;dealer b of k song 2;"));
+        int[] first = {0, 0, 0, 0, 0, 1, 0, 0, 0, 21, 1};
+        int[] second = {0, 0, 0, 0, 0, 2, 0, 0, 0, 22, 1};
+        for (int i = 0; i < first.length; i++) {
+            CHECK.due("former: dealer(0, " + i + ")", first[i], x.dealer(0, i));
+            CHECK.due("former: dealer(1, " + i + ")", second[i], x.dealer(1, i));
+        }
+        int[] about = {2, 1, 3, 0, 0, 0, 0, 0, 0, 0, 0, 0, 0, 0};
+        for (int i = 0; i < about.length; i++) {
+            CHECK.due("former: about(" + i + ")", about[i], x.about(i));
+        }
+        CHECK.due("former: chorus()", 43, x.chorus());
+        CHECK.due("former: law(3)", 22, x.law(3));
+        CHECK.due("former: hour()", 20, x.hour());
+        CHECK.due("former: the COLD", 0, x.about(6));
+        CHECK.due("former: fits", 100, x.fits(0));
     }
 
     private static void faultLeavesAll() {
@@ -298,6 +331,8 @@ final class TextTest {
         }
         good("kind line;kind both;kind e;");
         good("kind abcdefgh;dealer d of abcdefgh song 1;");
+        good("kind zz;kind az;kind za;");
+        fault("kind za;kind az;kind za;", 3, 21);
     }
 
     private static void numbers() {
