@@ -139,10 +139,10 @@ final class StrangerTest {
         x.heard(7, 15, true);
         CHECK.due("of a former MARKET", 20, x.fits(9));
         CHECK.due("its songs", -2, x.sure(9));
-        Texts.market(x, "chirps age*2;");
+        Texts.market(x, "chirps age*3;");
         CHECK.due("of a new MARKET", 100, x.fits(9));
         x.heard(7, 15, true);
-        CHECK.due("by its chirps", 20, x.fits(9));
+        CHECK.due("by its chirps", 50, x.fits(9));
     }
 
     private static void twoTimes() {
@@ -177,6 +177,9 @@ final class StrangerTest {
         x = new CricketHay();
         x.heard(20, 21, false);
         CHECK.due("sure of song 0", 0, x.sure(0));
+        x = Texts.of("chirps (song=0 and age=0)*5;");
+        x.heard(0, 5, true);
+        CHECK.due("sure of the first one of all", 0, x.sure(0));
         x = Texts.of("chirps song+age;");
         x.heard(0, 18, true);
         CHECK.due("sure of one with an age", 9, x.sure(0));

@@ -7,6 +7,7 @@ final class TextTest {
         tape();
         byteOrder();
         tapeEnds();
+        cutTape();
         marketTells();
         marketStartsAnew();
         marketForgetsFormer();
@@ -89,6 +90,30 @@ final class TextTest {
         CHECK.due("bytes of none", 0, x.about(11));
     }
 
+    private static void cut(String text, int n, int fault, int place) {
+        CricketHay x = new CricketHay();
+        Texts.feed(x, text);
+        CHECK.due("end(" + n + ") of " + text, n, x.end(n));
+        x.market();
+        CHECK.due("fault of " + n + " of " + text, fault, x.fault(0));
+        CHECK.due("place of " + n + " of " + text, place, x.fault(1));
+    }
+
+    /** What was fed and is cut off counts for nothing. */
+    private static void cutTape() {
+        cut("kind abcdef;", 12, 0, -1);
+        cut("kind abcdef;", 8, 2, 8);
+        cut("kind abcdefghi;", 13, 2, 13);
+        cut("kind;", 3, 2, 0);
+        cut("cart 12345;", 7, 4, 5);
+        cut("draw 12345;", 8, 2, 8);
+        cut("draw 5a;", 6, 2, 6);
+        cut("kind a   b", 8, 2, 8);
+        cut("cart 5;;", 7, 0, -1);
+        cut("cart 5;$", 7, 0, -1);
+        cut("cart 5; ", 0, 0, -1);
+    }
+
     private static void marketTells() {
         CricketHay x = Texts.of("kind k;kind j;dealer a of j song 3 age 4 gold 500 loads 6 needs 7;"
             + "\ndealer k of k song 9;snap 30 of 4;cart 8;draw 123;heat 7+hour;chirps song*2;");
@@ -154,9 +179,11 @@ final class TextTest {
 
     /** All that a richer MARKET told or left is gone with the next one. */
     private static void marketForgetsFormer() {
-        CricketHay x = Texts.of("kind k;kind j;dealer a of j song 9 age 9 gold 9 loads 9 needs 9;"
+        String rich = "kind k;kind j;dealer a of j song 9 age 9 gold 9 loads 9 needs 9;"
             + "dealer b of j song 8 age 8 needs 8;dealer c of j song 7;chirps 77+day;heat 33+hour;"
-            + "snap 100 of 20;cart 9;draw 999;");
+            + "snap 100 of 20;cart 9;draw 999;";
+        CricketHay x = Texts.of(rich);
+        CHECK.due("the same once more", 3, Texts.market(x, rich));
         for (int i = 0; i < 26; i++) {
             x.hour();
         }
@@ -180,6 +207,12 @@ final class TextTest {
         CHECK.due("former: hour()", 20, x.hour());
         CHECK.due("former: the COLD", 0, x.about(6));
         CHECK.due("former: fits", 100, x.fits(0));
+        CHECK.due("a KIND of a former one", -1, Texts.market(x, "kind k;dealer a of j song 1;"));
+        CHECK.due("its fault", 5, x.fault(0));
+        CHECK.due("a NAME of former ones", 1, Texts.market(x, "kind j;dealer b of j song 1;"));
+        CHECK.due("four KINDS' worth of names", -1,
+            Texts.market(x, "kind a;kind b;kind c;dealer d of e song 1;"));
+        CHECK.due("its place", 33, x.fault(1));
     }
 
     private static void faultLeavesAll() {
