@@ -81,45 +81,36 @@ final class AheadTest {
         CHECK.due("low at the start", 0, x.low(0, 1, 60));
     }
 
-    private static void lies(String when, CricketHay x, int... due) {
-        CHECK.due(when + ": how many lie there", due.length, x.about(13));
-        for (int i = 0; i < due.length; i++) {
-            CHECK.due(when + ": lies(" + i + ")", due[i], x.lies(i));
-        }
-        CHECK.due(when + ": lies behind", -100, x.lies(due.length));
-        CHECK.due(when + ": lies(-1)", -100, x.lies(-1));
-    }
-
     private static void plan() {
         CricketHay x = Texts.of(ZIGZAG);
         CHECK.due("plan(0, 1, 1, 1)", 2, x.plan(0, 1, 1, 1));
-        lies("one of one", x, 1);
+        CHECK.lies("one of one", x, 1);
         CHECK.due("plan(0, 1, 4, 1)", 8, x.plan(0, 1, 4, 1));
-        lies("four of one", x, 4);
+        CHECK.lies("four of one", x, 4);
         CHECK.due("plan(0, 1, 9, 6)", 4 * 2 + 4 * 3 + 4, x.plan(0, 1, 9, 6));
-        lies("nine of six", x, 4, 0, 0, 1, 0, 4);
+        CHECK.lies("nine of six", x, 4, 0, 0, 1, 0, 4);
         CHECK.due("plan(0, 1, 20, 12)", 4 * (2 + 2 + 3 + 4 + 4), x.plan(0, 1, 20, 12));
         // Prices at HOURS 0 to 11: 2 5 8 4 7 3 6 2 5 8 4 7.
-        lies("twenty of twelve", x, 4, 0, 0, 4, 0, 4, 0, 4, 0, 0, 4, 0);
+        CHECK.lies("twenty of twelve", x, 4, 0, 0, 4, 0, 4, 0, 4, 0, 0, 4, 0);
         x.plan(0, 1, 1, 12);
         CHECK.due("a cheaper hour beyond does not count", 4 * 2 + 4, x.plan(0, 1, 5, 5));
-        lies("five of five", x, 4, 0, 0, 1, 0);
+        CHECK.lies("five of five", x, 4, 0, 0, 1, 0);
         CHECK.due("plan(0, 1, 8, 2), all that the cart takes", 28, x.plan(0, 1, 8, 2));
-        lies("eight of two", x, 4, 4);
+        CHECK.lies("eight of two", x, 4, 4);
     }
 
     private static void planOfLikeOnes() {
         CricketHay x = Texts.of("kind k;dealer a of k song 1;dealer b of k song 2;chirps 6;cart 9;");
         CHECK.due("all alike", 66, x.plan(0, 1, 11, 5));
-        lies("all alike", x, 9, 2, 0, 0, 0);
+        CHECK.lies("all alike", x, 9, 2, 0, 0, 0);
         x = Texts.of("kind k;dealer a of k song 1;dealer b of k song 2;chirps (hour=0)+hour%2+1;");
         // Prices 2 2 1 2 1 2 with a cart of 3.
         CHECK.due("two prices", 6 + 4, x.plan(0, 1, 8, 6));
-        lies("two prices", x, 2, 0, 3, 0, 3, 0);
+        CHECK.lies("two prices", x, 2, 0, 3, 0, 3, 0);
         CHECK.due("two prices, less", 5, x.plan(0, 1, 5, 6));
-        lies("two prices, less", x, 0, 0, 3, 0, 2, 0);
+        CHECK.lies("two prices, less", x, 0, 0, 3, 0, 2, 0);
         CHECK.due("two prices, more", 6 + 2 * 4, x.plan(0, 1, 10, 6));
-        lies("two prices, more", x, 3, 1, 3, 0, 3, 0);
+        CHECK.lies("two prices, more", x, 3, 1, 3, 0, 3, 0);
     }
 
     private static void planRefused() {
@@ -131,7 +122,7 @@ final class AheadTest {
             x.plan(0, 1, 1, 3);
             String call = "plan(" + w[0] + ", " + w[1] + ", " + w[2] + ", " + w[3] + ")";
             CHECK.due(call, -1, x.plan(w[0], w[1], w[2], w[3]));
-            lies(call, x);
+            CHECK.lies(call, x);
         }
     }
 

@@ -21,6 +21,16 @@ final class Check {
         due(call, want ? 1 : 0, got ? 1 : 0);
     }
 
+    /** Just these numbers lie there, in their order. */
+    void lies(String when, CricketHay x, int... due) {
+        due(when + ": how many lie there", due.length, x.about(13));
+        for (int i = 0; i < due.length; i++) {
+            due(when + ": lies(" + i + ")", due[i], x.lies(i));
+        }
+        due(when + ": lies behind", -100, x.lies(due.length));
+        due(when + ": lies(-1)", -100, x.lies(-1));
+    }
+
     /** Tells how it went; the process fails if an answer was wrong. */
     void end() {
         System.out.println(name + ": " + right + " answers as due, " + wrong + " not");

@@ -22,15 +22,6 @@ final class DealTest {
         CHECK.end();
     }
 
-    private static void lies(String when, CricketHay x, int... due) {
-        CHECK.due(when + ": how many lie there", due.length, x.about(13));
-        for (int i = 0; i < due.length; i++) {
-            CHECK.due(when + ": lies(" + i + ")", due[i], x.lies(i));
-        }
-        CHECK.due(when + ": lies behind", -100, x.lies(due.length));
-        CHECK.due(when + ": lies(-1)", -100, x.lies(-1));
-    }
-
     /** Dealers of one kind, whose crickets chirp as often as their age tells. */
     private static String dealer(String name, int chirps, int gold, int loads, int needs) {
         return "dealer " + name + " of k song 1 age " + chirps + " gold " + gold + " loads "
@@ -46,42 +37,42 @@ final class DealTest {
             dealer("c", 30, 99, 0, 0), dealer("d", 90, 49, 0, 0));
         // Of a: b at 15 to c at 20; d has not his 50.
         CHECK.due("gain(0)", 5, x.gain(0));
-        lies("gain(0)", x, 1, 2);
+        CHECK.lies("gain(0)", x, 1, 2);
         // Of b: a at 15 to c at 25.
         CHECK.due("gain(1)", 10, x.gain(1));
-        lies("gain(1)", x, 0, 2);
+        CHECK.lies("gain(1)", x, 0, 2);
         // Of c: a at 20 to b at 25.
         CHECK.due("gain(2)", 5, x.gain(2));
-        lies("gain(2)", x, 0, 1);
+        CHECK.lies("gain(2)", x, 0, 1);
         CHECK.due("gain(2) by the first one, too", 25 - 20, x.gain(2));
         CHECK.due("gain(3), whose gold does not do", -1000, x.gain(3));
-        lies("gain(3)", x);
+        CHECK.lies("gain(3)", x);
         x = market(dealer("a", 10, 20, 0, 0), dealer("b", 30, 99, 1, 0),
             dealer("c", 10, 99, 0, 0));
         CHECK.due("gain(0) with a loss", -10, x.gain(0));
-        lies("a loss", x, 1, 2);
+        CHECK.lies("a loss", x, 1, 2);
         x = market(dealer("a", 10, 19, 0, 0), dealer("b", 30, 99, 1, 0),
             dealer("c", 10, 99, 0, 0));
         CHECK.due("gain(0) without the gold", -1000, x.gain(0));
-        lies("without the gold", x);
+        CHECK.lies("without the gold", x);
     }
 
     private static void gainFromLast() {
         CricketHay x = market(dealer("a", 60, 99, 0, 0), dealer("b", 20, 99, 0, 0),
             dealer("c", 10, 99, 1, 0));
         CHECK.due("gain(1), of the last to the first", 40 - 15, x.gain(1));
-        lies("of the last to the first", x, 2, 0);
+        CHECK.lies("of the last to the first", x, 2, 0);
     }
 
     private static void gainOfLikeOnes() {
         CricketHay x = market(dealer("a", 10, 99, 9, 0), dealer("b", 20, 99, 1, 0),
             dealer("c", 20, 99, 1, 0), dealer("d", 30, 99, 0, 0), dealer("e", 30, 99, 0, 0));
         CHECK.due("gain of like ones", 5, x.gain(0));
-        lies("of like ones", x, 1, 3);
+        CHECK.lies("of like ones", x, 1, 3);
         x = market(dealer("a", 10, 99, 9, 0), dealer("b", 20, 14, 1, 0),
             dealer("c", 20, 15, 1, 0));
         CHECK.due("gain where one can't pay", 0, x.gain(0));
-        lies("where one can't pay", x, 1, 2);
+        CHECK.lies("where one can't pay", x, 1, 2);
     }
 
     private static void gainRefused() {
@@ -93,39 +84,39 @@ final class DealTest {
         x.gain(1);
         CHECK.due("something lies there", 2, x.about(13));
         CHECK.due("gain(3)", -1000, x.gain(3));
-        lies("gain(3)", x);
+        CHECK.lies("gain(3)", x);
         x.gain(1);
         CHECK.due("gain(-1)", -1000, x.gain(-1));
-        lies("gain(-1)", x);
+        CHECK.lies("gain(-1)", x);
     }
 
     private static void clear() {
         CricketHay x = market(dealer("a", 10, 99, 1, 3), dealer("b", 20, 99, 5, 4),
             dealer("c", 30, 99, 9, 0), dealer("d", 40, 99, 0, 0));
         CHECK.due("clear(0)", 1, x.clear(0));
-        lies("clear(0)", x, 1, -1, -1, -1);
+        CHECK.lies("clear(0)", x, 1, -1, -1, -1);
         CHECK.due("clear(1)", 15, x.clear(1));
-        lies("clear(1)", x, 1, -1, -1, -1);
+        CHECK.lies("clear(1)", x, 1, -1, -1, -1);
         // Both need, b has only one over, so one of them takes it of c at more.
         x = market(dealer("a", 10, 99, 0, 1), dealer("b", 20, 99, 1, 0),
             dealer("c", 30, 99, 5, 0), dealer("d", 40, 99, 0, 1));
         CHECK.due("two loads", 2, x.clear(0));
         CHECK.due("what is paid", 15 + 35, x.clear(1));
-        lies("two loads", x, 1, -1, -1, 2);
+        CHECK.lies("two loads", x, 1, -1, -1, 2);
         x = market(dealer("a", 10, 14, 0, 1), dealer("b", 20, 99, 9, 0));
         CHECK.due("without the gold", 0, x.clear(0));
         CHECK.due("nothing is paid", 0, x.clear(1));
-        lies("without the gold", x, -1, -1);
+        CHECK.lies("without the gold", x, -1, -1);
         x = market(dealer("a", 10, 15, 0, 1), dealer("b", 20, 99, 9, 0));
         CHECK.due("with just the gold", 1, x.clear(0));
         x = market(dealer("a", 10, 99, 0, 1), dealer("b", 20, 99, 4, 4));
         CHECK.due("none over", 0, x.clear(0));
         x = market(dealer("a", 20, 99, 9, 0), dealer("b", 10, 15, 0, 1));
         CHECK.due("of the first one", 1, x.clear(0));
-        lies("of the first one", x, -1, 0);
+        CHECK.lies("of the first one", x, -1, 0);
         x = market(dealer("a", 10, 99, 4, 4), dealer("b", 20, 99, 9, 4));
         CHECK.due("none in need", 0, x.clear(0));
-        lies("none in need", x, -1, -1);
+        CHECK.lies("none in need", x, -1, -1);
         CHECK.due("nobody at all", 0, Texts.of("").clear(0));
         CHECK.due("of loads as they are", 9, x.dealer(1, 1));
     }
@@ -134,16 +125,16 @@ final class DealTest {
         CricketHay x = market(dealer("a", 10, 99, 0, 1), dealer("b", 20, 99, 1, 0),
             dealer("c", 20, 99, 1, 0), dealer("d", 10, 99, 0, 1));
         CHECK.due("alike", 2, x.clear(0));
-        lies("alike", x, 1, -1, -1, 2);
+        CHECK.lies("alike", x, 1, -1, -1, 2);
         // One load for two: the first plan lets the first one go without.
         x = market(dealer("a", 10, 99, 0, 1), dealer("b", 20, 99, 1, 0),
             dealer("c", 10, 99, 0, 1));
         CHECK.due("one for two", 1, x.clear(0));
-        lies("one for two", x, -1, -1, 1);
+        CHECK.lies("one for two", x, -1, -1, 1);
         x = market(dealer("a", 9, 99, 0, 1), dealer("b", 21, 99, 1, 0),
             dealer("c", 11, 99, 0, 1));
         CHECK.due("one for two, the cheaper one", 15, x.clear(1));
-        lies("one for two, the cheaper one", x, 1, -1, -1);
+        CHECK.lies("one for two, the cheaper one", x, 1, -1, -1);
     }
 
     private static void clearMostFirst() {
@@ -152,23 +143,23 @@ final class DealTest {
             dealer("c", 60, 0, 3, 2), dealer("d", 2, 99, 0, 9));
         CHECK.due("most", 2, x.clear(0));
         CHECK.due("paid", 15 + 31, x.clear(1));
-        lies("most", x, 1, -1, -1, 2);
+        CHECK.lies("most", x, 1, -1, -1, 2);
         x = market(dealer("a", 10, 99, 0, 1), dealer("b", 10, 99, 0, 1),
             dealer("c", 10, 99, 0, 1), dealer("d", 10, 99, 0, 1), dealer("e", 10, 0, 3, 1),
             dealer("f", 8, 0, 2, 1));
         CHECK.due("three of four", 3, x.clear(0));
         CHECK.due("three of four are paid", 10 + 10 + 9, x.clear(1));
-        lies("three of four", x, -1, 4, 4, 5, -1, -1);
+        CHECK.lies("three of four", x, -1, 4, 4, 5, -1, -1);
     }
 
     private static void clearRefused() {
         CricketHay x = market(dealer("a", 10, 99, 0, 1), dealer("b", 20, 99, 1, 0));
         x.clear(0);
         CHECK.due("clear(2)", -1, x.clear(2));
-        lies("clear(2)", x);
+        CHECK.lies("clear(2)", x);
         x.clear(0);
         CHECK.due("clear(-1)", -1, x.clear(-1));
-        lies("clear(-1)", x);
+        CHECK.lies("clear(-1)", x);
     }
 
     // Heat 30, each snap 4 of it: a price of 30 less the COLD.
@@ -259,27 +250,27 @@ final class DealTest {
         // Prices change by a half of each BREATH, so a load is worth no breath, nine are.
         CricketHay x = Texts.of("kind k;dealer a of k song 0;dealer b of k song 0;");
         CHECK.due("rest for a load", 1, x.rest(0, 1, 1));
-        lies("rest for a load", x, 0, 0);
+        CHECK.lies("rest for a load", x, 0, 0);
         // Three loads cost 3 more by each step up: the buyer may go down, the seller up, or not.
         x = Texts.of("kind k;dealer a of k song 0;dealer b of k song 0;chirps heat*2;");
         CHECK.due("rest for three loads", 9, x.rest(0, 1, 3));
-        lies("rest for three loads", x, -2, 0);
+        CHECK.lies("rest for three loads", x, -2, 0);
         CHECK.due("rest for two loads", 1, x.rest(0, 1, 2));
-        lies("rest for two loads", x, 0, 0);
+        CHECK.lies("rest for two loads", x, 0, 0);
         CHECK.due("rest for four loads", 1, x.rest(0, 1, 4));
-        lies("rest for four loads", x, -2, 2);
+        CHECK.lies("rest for four loads", x, -2, 2);
         x.breathe(0, 5);
         CHECK.due("rest in place of a BREATH", 1, x.rest(0, 1, 4));
-        lies("rest in place of a BREATH", x, -2, 2);
+        CHECK.lies("rest in place of a BREATH", x, -2, 2);
         CHECK.due("rest, the other way", 1, x.rest(1, 0, 4));
-        lies("rest, the other way", x, -2, 2);
+        CHECK.lies("rest, the other way", x, -2, 2);
         // The nine loads are more than the cart takes, which does not matter.
         CHECK.due("rest for nine loads", 1, x.rest(0, 1, 9));
         // Warmth above 20 makes either sing 40: the seller's first step pays, the buyer's does not.
         x = Texts.of("kind k;dealer a of k song 0;dealer b of k song 1;"
             + "chirps (heat>20)*(1-song)*40+(heat>20)*song*40;");
         CHECK.due("rest where warmth sings", 1, x.rest(0, 1, 1));
-        lies("rest where warmth sings", x, 0, 1);
+        CHECK.lies("rest where warmth sings", x, 0, 1);
     }
 
     private static void restElsewhere() {
@@ -287,27 +278,27 @@ final class DealTest {
         CricketHay x = Texts.of("kind k;dealer a of k song 0;dealer b of k song 0;"
             + "chirps 99-heat*2;");
         CHECK.due("rest where cold sings", 1, x.rest(0, 1, 5));
-        lies("rest where cold sings", x, 2, -2);
+        CHECK.lies("rest where cold sings", x, 2, -2);
         CHECK.due("rest where cold sings, for three", 9, x.rest(0, 1, 3));
-        lies("rest where cold sings, for three", x, 0, -2);
+        CHECK.lies("rest where cold sings, for three", x, 0, -2);
         // At 20 none sings, elsewhere both do, the more the farther.
         x = Texts.of("kind k;dealer a of k song 0;dealer b of k song 0;"
             + "chirps (20-heat)*(20-heat)*20;");
         CHECK.due("two rests", 2, x.rest(0, 1, 1));
-        lies("two rests", x, 0, -2);
+        CHECK.lies("two rests", x, 0, -2);
         // Each sings at 18, 19 and 21 as he likes best: 18 the buyer, 19 the seller.
         x = Texts.of("kind k;dealer a of k song 0;dealer b of k song 1;"
             + "chirps (song=0)*(heat>18)*80+(song=1)*(heat=19)*80;");
         CHECK.due("a rest of 18 and 19", 1, x.rest(0, 1, 1));
-        lies("a rest of 18 and 19", x, -2, -1);
+        CHECK.lies("a rest of 18 and 19", x, -2, -1);
         // The HOUR is the one that is now, whatever was looked at ahead of it.
         x = Texts.of("kind k;dealer a of k song 0;dealer b of k song 0;chirps heat*2*(hour=0);");
         x.will(0, 1, 5);
         CHECK.due("rest at HOUR 0", 1, x.rest(0, 1, 4));
-        lies("rest at HOUR 0", x, -2, 2);
+        CHECK.lies("rest at HOUR 0", x, -2, 2);
         x.hour();
         CHECK.due("rest at HOUR 1", 1, x.rest(0, 1, 4));
-        lies("rest at HOUR 1", x, 0, 0);
+        CHECK.lies("rest at HOUR 1", x, 0, 0);
     }
 
     private static void restRefused() {
@@ -319,12 +310,12 @@ final class DealTest {
             x.rest(0, 1, 1);
             String call = "rest(" + w[0] + ", " + w[1] + ", " + w[2] + ")";
             CHECK.due(call, -1, x.rest(w[0], w[1], w[2]));
-            lies(call, x);
+            CHECK.lies(call, x);
         }
         x.free(2);
         x.rest(0, 1, 1);
         CHECK.due("rest of a FREE seller", -1, x.rest(0, 2, 1));
-        lies("rest of a FREE seller", x);
+        CHECK.lies("rest of a FREE seller", x);
         CHECK.due("rest of a FREE buyer", -1, x.rest(2, 0, 1));
         CHECK.due("rest of the others", 1, x.rest(0, 1, 1));
     }
@@ -350,7 +341,7 @@ final class DealTest {
         CricketHay x = market(dealer("a", 10, 99, 0, 1), dealer("b", 20, 99, 1, 0),
             dealer("c", 30, 99, 0, 0));
         x.plan(0, 1, 3, 5);
-        lies("a plan", x, 3, 0, 0, 0, 0);
+        CHECK.lies("a plan", x, 3, 0, 0, 0, 0);
         x.hour();
         x.undo();
         x.price(0, 1);
@@ -359,13 +350,13 @@ final class DealTest {
         x.image(0);
         x.back(0);
         x.law(9);
-        lies("a plan, later", x, 3, 0, 0, 0, 0);
+        CHECK.lies("a plan, later", x, 3, 0, 0, 0, 0);
         x.gain(0);
-        lies("a gain", x, 1, 2);
+        CHECK.lies("a gain", x, 1, 2);
         x.clear(1);
-        lies("a clearing", x, 1, -1, -1);
+        CHECK.lies("a clearing", x, 1, -1, -1);
         x.rest(0, 1, 1);
-        lies("a rest", x, 0, 0);
+        CHECK.lies("a rest", x, 0, 0);
         CHECK.due("lies(most)", -100, x.lies(Integer.MAX_VALUE));
         CHECK.due("lies(least)", -100, x.lies(Integer.MIN_VALUE));
     }
