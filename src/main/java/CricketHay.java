@@ -910,7 +910,7 @@ public final class CricketHay {
                 return;
             }
             token = NAME;
-            for (int i = 0; i < WORDS.length() && token == NAME; i += WORD_SIGNS) {
+            for (int i = 0; i + WORD_SIGNS <= WORDS.length() && token == NAME; i += WORD_SIGNS) {
                 int same = 0;
                 while (same < WORD_SIGNS
                     && WORDS.charAt(i + same) == (place + same < at ? bytes[place + same] : ' ')) {
@@ -999,8 +999,8 @@ public final class CricketHay {
             switch (sort) {
                 case KIND: readKind(); break;
                 case DEALER: readDealer(); break;
-                case CHIRPS: readFormula(market.chirps); break;
-                case HEAT: readFormula(market.heat); break;
+                case CHIRPS: formula = market.chirps; readEither(0); break;
+                case HEAT: formula = market.heat; readEither(0); break;
                 case SNAP: readSnap(); break;
                 case CART: market.cart = needNumber(1, MOST_LOADS); break;
                 default: market.draw = needNumber(0, 999); break;
@@ -1087,11 +1087,6 @@ public final class CricketHay {
         }
 
         // ---- Formulas: depth is how many units ( e ) and nots are around ----
-
-        private void readFormula(Formula into) {
-            formula = into;
-            readEither(0);
-        }
 
         private void readEither(int depth) {
             readBoth(depth);

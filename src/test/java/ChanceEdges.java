@@ -179,6 +179,8 @@ final class ChanceEdges {
         for (int n : new int[] {Integer.MIN_VALUE, -1, 4, Integer.MAX_VALUE}) {
             e.refused("mean(0, 1, " + n + ", 0)", -1, () -> cold(""), y -> y.mean(0, 1, n, 0));
         }
+        e.due("mean(0, 1, 4, 0) of 5", -1, cold("chirps 5;").mean(0, 1, 4, 0));
+        e.due("mean(0, 1, 4, 1) of 5", -1, cold("chirps 5;").mean(0, 1, 4, 1));
         for (int part : new int[] {Integer.MIN_VALUE, -1, 2, Integer.MAX_VALUE}) {
             e.refused("mean(0, 1, 1, " + part + ")", -1, () -> cold(""),
                 y -> y.mean(0, 1, 1, part));

@@ -65,6 +65,9 @@ final class DealEdges {
         // The dearer buyer has not his PRICE, the cheaper seller has no load.
         gains("what is left", 1, market(one(10, 99, 0, 0), one(20, 0, 1, 0), one(22, 16, 0, 0),
             one(60, 34, 0, 0), one(5, 0, 0, 0)), 0, 1, 2);
+        // Of b to c 1, to d 2; of e at 12 to c 4, to d 5.
+        gains("better and better", 5, market(one(10, 99, 0, 0), one(20, 0, 1, 0), one(22, 16, 0, 0),
+            one(24, 17, 0, 0), one(14, 0, 1, 0)), 0, 4, 3);
         gains("of the last to the first", 25, market(one(60, 99, 0, 0), one(20, 99, 0, 0),
             one(10, 99, 1, 0)), 1, 2, 0);
     }
@@ -175,6 +178,11 @@ final class DealEdges {
         rests("in place of theirs", x, 4, 1, -2, 2);
         e.due("the buyer's as it was", 5, x.dealer(0, 7));
         e.due("the seller's as it was", -5, x.dealer(1, 7));
+        x = singing("heat*2*(hour=0)", 20);
+        x.will(0, 1, 5);
+        rests("in the HOUR that is now", x, 4, 1, -2, 2);
+        x.hour();
+        rests("an HOUR later", x, 4, 1, 0, 0);
         rests("one that is cold sings", singing("99-heat*2", 20), 4, 1, 2, -2);
         // 41 halved is as good as 40, so that each step back and forth pays one of both.
         rests("none at rest", singing("heat", 20), 4, 0);

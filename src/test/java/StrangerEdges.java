@@ -146,6 +146,23 @@ final class StrangerEdges {
         x.hour();
         x.back(0);
         e.due("in HOUR 4, gone on from", 70, x.fits(0));
+        for (int i = 0; i < 24; i++) {
+            x.hour();
+        }
+        e.due("in HOUR 4 of day 2", 80, x.fits(0));
+        e.due("of a new MARKET", 0, Texts.market(x, "chirps age+hour+day;"));
+        e.due("of a new MARKET, nothing HEARD", 100, x.fits(0));
+        for (int i = 0; i < 28; i++) {
+            x.hour();
+        }
+        x.heard(0, 14, true);
+        e.due("in HOUR 4 of day 1 of it", 10, x.fits(0));
+        Texts.market(x, "chirps song+4;");
+        x.heard(0, 11, true);
+        e.due("in HOUR 0 of day 0", 30, x.fits(0));
+        Texts.market(x, "chirps age+4;");
+        x.heard(0, 12, true);
+        e.due("in HOUR 0 of day 0 of another MARKET", 20, x.fits(0));
     }
 
     private void sureTerm() {

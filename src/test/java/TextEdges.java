@@ -99,6 +99,9 @@ final class TextEdges {
                 if (i > 0) {
                     fault(2, begun + "@snap");
                 }
+                if (!tokens[i].equals(";") && !"age gold loads needs".contains(tokens[i])) {
+                    fault(2, begun + "@;");
+                }
                 begun.append(tokens[i]);
                 if (i < tokens.length - 1) {
                     fault(2, begun + "@");
@@ -251,6 +254,8 @@ final class TextEdges {
             fault(2, "kind k;dealer d of @" + word + " song 1;");
             good("kind " + word + "x;dealer x" + word + " of " + word + "x song 1;");
             good("kind " + word.substring(1) + "q;");
+            good("kind x" + word.substring(1) + ";");
+            good("kind " + word.substring(0, word.length() - 1) + "x;");
         }
         good("kind e;kind n;kind name;");
         good("kind both;kind one;kind sum;");
@@ -379,6 +384,7 @@ final class TextEdges {
         fault(2, "chirps " + sum(30) + "*@hour;");
         fault(2, "chirps " + sum(30) + " or @(hour);");
         fault(2, "chirps " + sum(30) + "<@1;");
+        fault(2, "chirps " + sum(30) + "+@;");
         e.due("60 in all", 60, good("heat " + sum(30) + ";chirps " + sum(30) + ";").about(12));
         e.due("59 in all", 59, good("heat " + sum(29) + ";chirps " + sum(30) + ";").about(12));
         fault(2, "heat " + sum(29) + ";chirps " + sum(30) + "+@1;");
@@ -412,6 +418,12 @@ final class TextEdges {
             + ")".repeat(7) + ";");
         good("heat " + "not ".repeat(7) + "1 or " + "not ".repeat(7) + "1;");
         fault(2, "heat not 1 and " + "not ".repeat(7) + "@not 1;");
+        // The longest formula: of thirty units, each behind seven nots, the last one alone counts.
+        String nots = "not ".repeat(7);
+        e.due("thirty of nothing", 0, good("heat " + (nots + "1 or ").repeat(29) + nots + "1;").heat());
+        e.due("the last of thirty", 1, good("heat " + (nots + "1 or ").repeat(29) + nots + "0;").heat());
+        e.due("the first of thirty", 1, good("heat " + nots + "0" + (" or " + nots + "1").repeat(29)
+            + ";").heat());
     }
 
     private void faultPlaces() {
@@ -460,6 +472,13 @@ final class TextEdges {
         fault(3, "kind k;" + dealers(5) + "dealer @e of k song 1;");
         good("kind k;kind d;dealer k of k song 1;dealer d of k song 1;");
         good("kind k;kind kk;kind kkk;dealer kk of kkk song 1;");
+        good("kind az;kind zz;kind za;");
+        good("kind aaaaaaaa;kind aaaaaaab;kind baaaaaaa;");
+        for (int letter = 'c'; letter <= 'z'; letter++) {
+            good("kind a" + (char) letter + ";kind b" + (char) (letter - 1) + ";kind "
+                + (char) letter + "a;");
+            fault(3, "kind " + (char) letter + ";kind a;kind @" + (char) letter + ";");
+        }
         e.says("Terms", "4 a number that can't be;");
         fault(4, "kind k;dealer d of k song @10;");
         fault(4, "kind k;dealer d of k song 1 age @100;");
@@ -605,6 +624,47 @@ final class TextEdges {
         e.due("its KINDS", 0, x.about(1));
         e.due("its TIME", 7, x.about(10));
         e.due("market() of six", 6, Texts.market(x, kinds(1) + dealers(6)));
+        formerOnes();
+    }
+
+    /** Nothing that two former MARKETS told, and that was done in them, is left. */
+    private void formerOnes() {
+        String rich = "kind k;kind j;dealer a of j song 9 age 9 gold 9 loads 9 needs 9;"
+            + "dealer b of j song 8 needs 8;dealer c of j song 7;chirps 7;heat 33+hour;"
+            + "snap 100 of 20;cart 9;draw 999;";
+        CricketHay x = new CricketHay();
+        for (int i = 0; i < 2; i++) {
+            e.due("market() of the rich one", 3, Texts.market(x, rich));
+            hours(x, 25);
+            x.breathe(0, 5);
+            x.free(0);
+            x.free(1);
+            e.due("HUNGER", 8, x.dealer(1, 3));
+        }
+        e.due("market() of a bare one", 2,
+            Texts.market(x, "kind i;dealer c of i song 1;dealer d of i song 2;"));
+        int[] about = {2, 1, 3, 0, 0, 0, 0, 0, 0, 0, 0, 0, 0, 0};
+        for (int what = 0; what < about.length; what++) {
+            e.due("bare: about(" + what + ")", about[what], x.about(what));
+        }
+        for (int dealer = 0; dealer < 2; dealer++) {
+            int[] due = {0, 0, 0, 0, 0, 1 + dealer, 0, 0, 0, 21 + dealer, 1};
+            for (int what = 0; what < due.length; what++) {
+                e.due("bare: dealer(" + dealer + ", " + what + ")", due[what],
+                    x.dealer(dealer, what));
+            }
+        }
+        e.due("bare: chorus()", 43, x.chorus());
+        e.due("bare: hour()", 20, x.hour());
+        e.due("bare: the COLD", 0, x.about(6));
+        e.due("all sorts told once more", 0,
+            Texts.market(x, "draw 1;cart 1;snap 1 of 1;heat 1;chirps 1;"));
+    }
+
+    private static void hours(CricketHay x, int many) {
+        for (int i = 0; i < many; i++) {
+            x.hour();
+        }
     }
 
     private void marketFault() {
