@@ -160,9 +160,9 @@ final class StrangerEdges {
         Texts.market(x, "chirps song+4;");
         x.heard(0, 11, true);
         e.due("in HOUR 0 of day 0", 30, x.fits(0));
-        Texts.market(x, "chirps age+4;");
+        Texts.market(x, "chirps age*2+4;");
         x.heard(0, 12, true);
-        e.due("in HOUR 0 of day 0 of another MARKET", 20, x.fits(0));
+        e.due("in HOUR 0 of day 0 of another MARKET", 60, x.fits(0));
     }
 
     private void sureTerm() {

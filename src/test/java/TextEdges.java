@@ -399,10 +399,12 @@ final class TextEdges {
 
     private void nesting() {
         e.says("Terms", "(a unit ( e ), or a one behind not, within 6 others at most).");
-        good("heat " + "(".repeat(7) + "1" + ")".repeat(7) + ";");
-        fault(2, "heat " + "(".repeat(7) + "@(1" + ")".repeat(8) + ";");
-        good("heat " + "not ".repeat(7) + "1;");
-        fault(2, "heat " + "not ".repeat(7) + "@not 1;");
+        for (String sort : new String[] {"heat ", "chirps "}) {
+            good(sort + "(".repeat(7) + "1" + ")".repeat(7) + ";");
+            fault(2, sort + "(".repeat(7) + "@(1" + ")".repeat(8) + ";");
+            good(sort + "not ".repeat(7) + "1;");
+            fault(2, sort + "not ".repeat(7) + "@not 1;");
+        }
         for (int nots = 0; nots <= 7; nots++) {
             String begun = "heat " + "(".repeat(7 - nots) + "not ".repeat(nots);
             String ended = ")".repeat(7 - nots);
@@ -474,10 +476,13 @@ final class TextEdges {
         good("kind k;kind kk;kind kkk;dealer kk of kkk song 1;");
         good("kind az;kind zz;kind za;");
         good("kind aaaaaaaa;kind aaaaaaab;kind baaaaaaa;");
-        for (int letter = 'c'; letter <= 'z'; letter++) {
-            good("kind a" + (char) letter + ";kind b" + (char) (letter - 1) + ";kind "
-                + (char) letter + "a;");
+        for (int letter = 'b'; letter <= 'z'; letter++) {
             fault(3, "kind " + (char) letter + ";kind a;kind @" + (char) letter + ";");
+            for (int other = 'a'; other < letter; other++) {
+                good("kind " + (char) letter + "a;kind " + (char) other + "a;");
+                good("kind " + (char) letter + "z;kind " + (char) other + "z;");
+                good("kind z" + (char) letter + ";kind z" + (char) other + ";");
+            }
         }
         e.says("Terms", "4 a number that can't be;");
         fault(4, "kind k;dealer d of k song @10;");
